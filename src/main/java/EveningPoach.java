@@ -8,6 +8,8 @@ public final class EveningPoach {
     private static final int LONGEST_WAIT = 20;
     private static final int LONGEST_HAZE = 8;
     private static final int ODDS = 10;
+    // More than any two longs need.
+    private static final int EUCLID_STEPS = 100;
     private static final int IMAGES = 2;
     private static final int SHEETS = 4;
 
@@ -257,37 +259,15 @@ public final class EveningPoach {
         if (isNoTaker(t) || isNoQuestion(n, what)) {
             return BAD;
         }
-        int choice = 0;
-        int most = -1;
-        for (int g = 0; g < Estate.GATES; g++) {
-            trial.begin(now);
-            trial.estate.gateOf[t] = g;
-            trial.pass(n);
-            if (trial.estate.bag[t] > most) {
-                most = trial.estate.bag[t];
-                choice = g;
-            }
-        }
-        return what == 0 ? choice : most;
+        return fullestBag(t, trial.estate.gateOf, Estate.GATES - 1, n, what);
     }
 
     public int ripen(int t, int n, int what) {
         if (isNoTaker(t) || isNoQuestion(n, what)) {
             return BAD;
         }
-        int choice = 0;
-        int most = -1;
-        for (int wait = 0; wait <= LONGEST_WAIT; wait++) {
-            trial.begin(now);
-            // To stay at home is to be held: he takes nothing and nobody hears him.
-            trial.estate.held[t] = wait;
-            trial.pass(n);
-            if (trial.estate.bag[t] > most) {
-                most = trial.estate.bag[t];
-                choice = wait;
-            }
-        }
-        return what == 0 ? choice : most;
+        // To stay at home is to be held: he takes nothing and nobody hears him.
+        return fullestBag(t, trial.estate.held, LONGEST_WAIT, n, what);
     }
 
     public int swap(int n, int what) {
@@ -359,18 +339,7 @@ public final class EveningPoach {
         if (isNoTaker(t) || isNoQuestion(n, what)) {
             return BAD;
         }
-        int choice = 0;
-        int most = -1;
-        for (int kind = 0; kind < Estate.KINDS; kind++) {
-            trial.begin(now);
-            trial.estate.kindOf[t] = kind;
-            trial.pass(n);
-            if (trial.estate.bag[t] > most) {
-                most = trial.estate.bag[t];
-                choice = kind;
-            }
-        }
-        return what == 0 ? choice : most;
+        return fullestBag(t, trial.estate.kindOf, Estate.KINDS - 1, n, what);
     }
 
     public int sharp(int k, int t, int n) {
@@ -445,22 +414,11 @@ public final class EveningPoach {
     }
 
     public int kinds(int t) {
-        if (isNoTaker(t)) {
-            return BAD;
-        }
-        int bits = 0;
-        for (int kind = 0; kind < Estate.KINDS; kind++) {
-            trial.begin(now);
-            trial.estate.kindOf[t] = kind;
-            if (seen.fit(trial)) {
-                bits |= 1 << kind;
-            }
-        }
-        return bits;
+        return isNoTaker(t) ? BAD : fittingBits(t, trial.estate.kindOf, Estate.KINDS - 1);
     }
 
     public int gates(int t) {
-        return isNoTaker(t) ? BAD : fittingGates(t);
+        return isNoTaker(t) ? BAD : fittingBits(t, trial.estate.gateOf, Estate.GATES - 1);
     }
 
     public int ask(int t, int what) {
@@ -468,7 +426,7 @@ public final class EveningPoach {
             return BAD;
         }
         outlook.clear();
-        int candidates = fittingGates(t);
+        int candidates = fittingBits(t, trial.estate.gateOf, Estate.GATES - 1);
         for (int g = 0; g < Estate.GATES; g++) {
             if ((candidates >> g & 1) == 1) {
                 trial.begin(now);
@@ -633,13 +591,30 @@ public final class EveningPoach {
         return was;
     }
 
-    private int fittingGates(int t) {
-        int bits = 0;
-        for (int g = 0; g < Estate.GATES; g++) {
+    /** Tries 0 to last for a taker in a row of the trial's estate: the first by which his bag is most, or how much. */
+    private int fullestBag(int t, int[] trialRow, int last, int n, int what) {
+        int choice = 0;
+        int most = -1;
+        for (int v = 0; v <= last; v++) {
             trial.begin(now);
-            trial.estate.gateOf[t] = g;
+            trialRow[t] = v;
+            trial.pass(n);
+            if (trial.estate.bag[t] > most) {
+                most = trial.estate.bag[t];
+                choice = v;
+            }
+        }
+        return what == 0 ? choice : most;
+    }
+
+    /** Tries 0 to last for a taker in a row of the trial's estate: bits of those by which all is as seen. */
+    private int fittingBits(int t, int[] trialRow, int last) {
+        int bits = 0;
+        for (int v = 0; v <= last; v++) {
+            trial.begin(now);
+            trialRow[t] = v;
             if (seen.fit(trial)) {
-                bits |= 1 << g;
+                bits |= 1 << v;
             }
         }
         return bits;
@@ -678,8 +653,7 @@ public final class EveningPoach {
     private static long commonDivisor(long a, long b) {
         long greater = a;
         long lesser = b;
-        // A hundred steps of Euclid are enough for any two longs.
-        for (int i = 0; i < 100 && lesser != 0; i++) {
+        for (int i = 0; i < EUCLID_STEPS && lesser != 0; i++) {
             long rest = greater % lesser;
             greater = lesser;
             lesser = rest;
@@ -942,6 +916,7 @@ public final class EveningPoach {
     /** Reads the tape's tokens and lines, up to the first fault. */
     private static final class TapeReader {
         private static final int AT_END = 0, NAME = 1, NUMBER = 2, SEMICOLON = 3;
+        private static final int MOST_FIGURES = 2;
         private static final int NO_TOKEN = 1, MISPLACED = 2, OUT_OF_BOUNDS = 3, GATE_TWICE = 4, TOO_MANY = 5;
 
         private final Tape tape;
@@ -1067,7 +1042,7 @@ public final class EveningPoach {
             if (tape.isBetween(first, '0', '9')) {
                 behind = placeBehindAll(first, '0', '9');
                 sort = NUMBER;
-                return takeFigures();
+                return takeFigures() || refuse(NO_TOKEN);
             }
             behind = first + 1;
             sort = SEMICOLON;
@@ -1076,15 +1051,15 @@ public final class EveningPoach {
 
         private int placeBehindAll(int from, int low, int high) {
             int place = from;
-            while (place < tape.length && tape.isBetween(place, low, high)) {
+            while (place < tape.length && tape.bytes[place] >= low && tape.bytes[place] <= high) {
                 place++;
             }
             return place;
         }
 
         private boolean takeFigures() {
-            if (behind - first > 2) {
-                return refuse(NO_TOKEN);
+            if (behind - first > MOST_FIGURES) {
+                return false;
             }
             number = 0;
             for (int place = first; place < behind && place < tape.length; place++) {

@@ -5,6 +5,7 @@ public final class BestTest {
     public static void main(String[] args) {
         best();
         ripen();
+        ripenForTwenty();
         swap();
         round();
         post();
@@ -45,6 +46,27 @@ public final class BestTest {
         CHECK.due("how much", y.ripen(0, 30, 1), 0);
         CHECK.due("ripen(2, 0, 0)", y.ripen(2, 0, 0), -1);
         refusals("ripen", y.ripen(0, 61, 0), y.ripen(0, -1, 0), y.ripen(0, 0, 2), y.ripen(0, 0, -1));
+    }
+
+    private static void ripenForTwenty() {
+        EveningPoach x = Check.told("squire 4;boy 1;dog 4;keeper 0 2 1;keeper 3 3 5;keeper 1 3 5;gate 4 6 1;");
+        CHECK.due("20 nights at home", x.ripen(0, 44, 0), 20);
+        CHECK.due("how much", x.ripen(0, 44, 1), 12);
+        // The same, a night sooner: 21 nights would give 12 still, but 20 are the most.
+        EveningPoach y = Check.told("squire 4;boy 1;dog 4;keeper 0 0 1;gate 4 6 1;");
+        y.nights(4);
+        y.order(0, 0, 4);
+        y.nights(1);
+        y.order(0, 0, 0);
+        y.nights(6);
+        CHECK.due("the dog is back in the next night", y.taker(2, 3), 1);
+        y.order(0, 1, 2);
+        y.hire(3, 3, 5);
+        y.hire(1, 3, 5);
+        y.tend(4, 0, 5);
+        y.alter(0, 2, 0);
+        CHECK.due("not 21", y.ripen(0, 45, 0), 19);
+        CHECK.due("not 12", y.ripen(0, 45, 1), 11);
     }
 
     private static void swap() {
@@ -95,6 +117,7 @@ public final class BestTest {
         CHECK.due("an ear that hears nobody: the first", x.post(6, 2, 0), 0);
         CHECK.due("how much", x.post(6, 2, 1), 30);
         CHECK.due("nobody is hired", x.rule(1), 0);
+        CHECK.due("the sharpest ear", x.post(1, 2, 0), 2);
         CHECK.due("post(0, 0, 0)", x.post(0, 0, 0), -1);
         CHECK.due("post(10, 0, 0)", x.post(10, 0, 0), -1);
         refusals("post", x.post(1, 61, 0), x.post(1, -1, 0), x.post(1, 0, 2), x.post(1, 0, -1));

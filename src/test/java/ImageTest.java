@@ -93,8 +93,11 @@ public final class ImageTest {
         x.lay(0, 0, 1);
         x.lay(0, 1, 4);
         x.sheet(0, 2, 2);
+        x.alter(0, 1, 3);
+        x.alter(1, 1, 3);
         CHECK.due("a new row of cells 0", x.read(0, 2, 0, 1), 1);
         CHECK.due("taker 0 to gate 0", x.taker(0, 1), 0);
+        CHECK.due("taker 1 stays", x.taker(1, 1), 3);
     }
 
     private static void laid(EveningPoach x, int lane, int t, int g, int due) {

@@ -8,6 +8,7 @@ public final class NightTest {
         bounds();
         lastNight();
         heldForAWeek();
+        mostCatches();
         runs();
         ahead();
         glow();
@@ -90,6 +91,24 @@ public final class NightTest {
         CHECK.due("keeper's place in night 11", x.keeper(0, 3), 0);
         CHECK.due("caught on the round", x.nights(1), 0);
         CHECK.due("catches", x.rule(3), 2);
+    }
+
+    /** The object outlives its 512 calls here: no fewer calls catch so many. */
+    private static void mostCatches() {
+        EveningPoach x = Check.told("boy 0;boy 0;boy 0;boy 0;boy 0;keeper 0 0 1;");
+        for (int night = 0; night < 199; night++) {
+            x.nights(1);
+            for (int t = 0; t < 5; t++) {
+                x.free(t);
+            }
+        }
+        CHECK.due("catches", x.rule(3), 995);
+        x.nights(1);
+        CHECK.due("999 at most", x.rule(3), 999);
+        x.nights(30);
+        CHECK.due("it stays", x.rule(3), 999);
+        x.free(0);
+        CHECK.due("how many times is counted all the same", x.runs(1, 2), 1);
     }
 
     private static void runs() {

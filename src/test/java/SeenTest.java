@@ -8,6 +8,7 @@ public final class SeenTest {
         fromWhenItIsAsked();
         ask();
         askByAnother();
+        askBehindTwentyNights();
         CHECK.finish("SeenTest");
     }
 
@@ -114,5 +115,18 @@ public final class SeenTest {
         CHECK.due("5 are left", x.ask(0, 1), 5);
         x.alter(1, 0, 2);
         CHECK.due("with a boy it shows at 0", x.ask(0, 0), 10);
+    }
+
+    /** All gates are full and stay so with the dog alone; with the squire, who is caught in nights 0, 8, 16, none does. */
+    private static void askBehindTwentyNights() {
+        EveningPoach x = Check.told("dog 0;squire 5;keeper 3 1 5;keeper 1 1 5;keeper 5 0 5;"
+            + "gate 0 60 9;gate 1 60 9;gate 2 60 9;gate 3 60 9;gate 4 60 9;gate 5 60 9;");
+        x.nights(4);
+        x.dismiss(2);
+        CHECK.due("behind 21 nights it would show: none", x.ask(0, 0), -4);
+        CHECK.due("none", x.ask(0, 1), -4);
+        x.nights(1);
+        CHECK.due("behind 20 it shows", x.ask(0, 0), 205);
+        CHECK.due("5 are left", x.ask(0, 1), 5);
     }
 }

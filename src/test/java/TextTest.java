@@ -103,6 +103,10 @@ public final class TextTest {
         refused("net 1`", 5, 1);
         refused("rook 1;", 0, 2);
         refused("netnet 1;", 0, 2);
+        refused("met 1;", 0, 2);
+        refused("date 1 1 1;", 0, 2);
+        refused("gat 1 1 1;", 0, 2);
+        refused("squirt 1;", 0, 2);
         refused("ne 1;", 0, 2);
         refused("nets 1;", 0, 2);
         refused("keepers 1 1 1;", 0, 2);
