@@ -48,6 +48,7 @@ public final class BestTest {
         refusals("ripen", y.ripen(0, 61, 0), y.ripen(0, -1, 0), y.ripen(0, 0, 2), y.ripen(0, 0, -1));
     }
 
+    /** Found by search, not reckoned by hand; Model answers the same. */
     private static void ripenForTwenty() {
         EveningPoach x = Check.told("squire 4;boy 1;dog 4;keeper 0 2 1;keeper 3 3 5;keeper 1 3 5;gate 4 6 1;");
         CHECK.due("20 nights at home", x.ripen(0, 44, 0), 20);

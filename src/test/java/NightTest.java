@@ -93,7 +93,7 @@ public final class NightTest {
         CHECK.due("catches", x.rule(3), 2);
     }
 
-    /** The object outlives its 512 calls here: no fewer calls catch so many. */
+    /** So many catches take more than the 512 calls that are promised, the way it is done here. */
     private static void mostCatches() {
         EveningPoach x = Check.told("boy 0;boy 0;boy 0;boy 0;boy 0;keeper 0 0 1;");
         for (int night = 0; night < 199; night++) {

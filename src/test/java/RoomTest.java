@@ -49,8 +49,20 @@ public final class RoomTest {
         x.drift(5, 60, 0);
         x.rule(7);
         x.gate(0, 3);
+        x.taker(0, 4);
+        x.keeper(0, 3);
+        x.alter(0, 2, 9);
+        x.order(0, 2, 3);
+        x.tend(0, 0, 50);
+        x.free(0);
+        x.hire(1, 1, 1);
+        x.dismiss(1);
+        x.torn();
+        x.count(5);
         x.back(0);
+        x.end(0);
         x.feed('@');
         x.text();
+        x.fault();
     }
 }
