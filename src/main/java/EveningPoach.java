@@ -15,8 +15,8 @@ public final class EveningPoach {
 
     private final Estate now = new Estate();
     private final Trial trial = new Trial();
-    private final Tape tape = new Tape();
-    private final TapeReader reader = new TapeReader(tape);
+    private final TapeReader reader = new TapeReader();
+    private final Tape tape = reader.tape;
     private final Sightings seen = new Sightings();
     private final Outlook outlook = new Outlook();
     private final Estate[] images = new Estate[IMAGES];
@@ -919,7 +919,7 @@ public final class EveningPoach {
         private static final int MOST_FIGURES = 2;
         private static final int NO_TOKEN = 1, MISPLACED = 2, OUT_OF_BOUNDS = 3, GATE_TWICE = 4, TOO_MANY = 5;
 
-        private final Tape tape;
+        final Tape tape = new Tape();
         private int sort;
         private int first;
         private int behind;
@@ -928,10 +928,6 @@ public final class EveningPoach {
         private int gatesTold;
         int fault;
         int faultPlace;
-
-        TapeReader(Tape tape) {
-            this.tape = tape;
-        }
 
         int readLines(Estate draft) {
             draft.clear();

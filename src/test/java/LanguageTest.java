@@ -121,6 +121,8 @@ public final class LanguageTest {
         while (library.find()) {
             CHECK.holds(library.group() + " is not of the library", allowed.contains(library.group()));
         }
+        // No constructor has parameters, so that none can be handed a part of an object that is not made yet.
+        CHECK.holds("a constructor is handed something", !Pattern.compile("\\bnew \\w+\\((?!\\))").matcher(code).find());
         CHECK.holds("signs are 1 to 127", code.chars().allMatch(c -> c < 128));
     }
 
